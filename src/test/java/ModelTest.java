@@ -4,7 +4,7 @@ import java.util.Random;
 
 /** Promises 6 to 32: runs of calls drawn by a fixed seed, each answer held against the Model. */
 public final class ModelTest {
-    private static final int RUNS = 120;
+    private static final int RUNS = 60;
     private static final int CALLS = 60;
 
     private final Due due = new Due();
