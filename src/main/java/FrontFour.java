@@ -450,7 +450,7 @@ public final class FrontFour {
             case 4:
                 return world.moment.second;
             case 5:
-                return world.hasLine() ? world.partingSecond() : NONE;
+                return world.train.parting;
             case 6:
                 return world.haltingStop();
             case 7:
@@ -850,6 +850,7 @@ public final class FrontFour {
             if ((told & 1 << PARTING) == 0) {
                 train.partingStop = train.stops - 1;
             }
+            train.parting = train.haltEnd[train.partingStop];
             for (int r = 0; r < train.riders; r++) {
                 int times = train.loads[r] < 2 ? 1 : 2 * train.loads[r] - 1;
                 train.insideSeconds[r] = times * train.pace[r];
@@ -1143,6 +1144,8 @@ public final class FrontFour {
         int stops;
         int riders;
         int partingStop;
+        /** The second of the PARTING, NONE without a LINE. */
+        int parting;
         int platform;
         final int[] goesTo = new int[MOST_COACHES];
         final int[] seats = new int[MOST_COACHES];
@@ -1162,6 +1165,7 @@ public final class FrontFour {
             stops = 0;
             riders = 0;
             partingStop = 0;
+            parting = NONE;
             platform = 4;
             Arrays.fill(goesTo, 0);
             Arrays.fill(seats, 4);
@@ -1174,6 +1178,7 @@ public final class FrontFour {
             stops = other.stops;
             riders = other.riders;
             partingStop = other.partingStop;
+            parting = other.parting;
             platform = other.platform;
             System.arraycopy(other.goesTo, 0, goesTo, 0, MOST_COACHES);
             System.arraycopy(other.seats, 0, seats, 0, MOST_COACHES);
@@ -1297,10 +1302,6 @@ public final class FrontFour {
             return rider >= 0 && rider < train.riders;
         }
 
-        int partingSecond() {
-            return train.haltEnd[train.partingStop];
-        }
-
         int haltingStop() {
             for (int s = 0; s < train.stops; s++) {
                 if (train.haltBegin[s] <= moment.second && moment.second <= train.haltEnd[s]) {
@@ -1374,18 +1375,16 @@ public final class FrontFour {
             }
             int begin = Math.max(at, train.trolley[way]);
             boolean isParted = train.goesTo[from] != train.goesTo[to];
-            if (isParted && begin + train.insideSeconds[rider] > partingSecond()) {
+            if (isParted && begin + train.insideSeconds[rider] > train.parting) {
                 return NEVER;
             }
             return begin;
         }
 
-        /** The last second at which a rider can begin to go INSIDE and be there by another; NONE. */
+        /** The last second at which a rider can begin to go INSIDE and be there by another, PARTING at most; NONE. */
         int insideLatest(int rider, int from, int to, int by) {
             int way = Math.min(from, to);
-            boolean isParted = train.goesTo[from] != train.goesTo[to];
-            int end = isParted ? Math.min(by, partingSecond()) : by;
-            int begin = end - train.insideSeconds[rider];
+            int begin = Math.min(by, train.parting) - train.insideSeconds[rider];
             return isShut(way) || begin < train.trolley[way] ? NONE : begin;
         }
 
@@ -1393,9 +1392,8 @@ public final class FrontFour {
             return Math.abs(to - from) * train.platformSeconds[rider];
         }
 
-        /** As insideBegin, along a platform: of STOPS up to that of the PARTING. */
-        int outsideBegin(int rider, int from, int to, int at) {
-            int seconds = outsideSeconds(rider, from, to);
+        /** As insideBegin, for so many seconds along a platform: of STOPS up to that of the PARTING. */
+        int outsideBegin(int seconds, int at) {
             for (int s = 0; s <= train.partingStop; s++) {
                 int begin = Math.max(at, train.haltBegin[s]);
                 if (begin + seconds <= train.haltEnd[s]) {
@@ -1405,8 +1403,7 @@ public final class FrontFour {
             return NEVER;
         }
 
-        int outsideLatest(int rider, int from, int to, int by) {
-            int seconds = outsideSeconds(rider, from, to);
+        int outsideLatest(int seconds, int by) {
             for (int s = train.partingStop; s >= 0; s--) {
                 int begin = Math.min(by, train.haltEnd[s]) - seconds;
                 if (begin >= train.haltBegin[s]) {
@@ -1435,7 +1432,7 @@ public final class FrontFour {
             if (isGoing(rider) || !hasCoach(to) || to == from) {
                 return false;
             }
-            return outsideBegin(rider, from, to, moment.second) == moment.second;
+            return outsideBegin(outsideSeconds(rider, from, to), moment.second) == moment.second;
         }
 
         int goOutside(int rider, int to) {
@@ -1473,13 +1470,14 @@ public final class FrontFour {
                 case SECOND:
                     return moment.second;
                 case LEFT:
-                    return Math.max(0, partingSecond() - moment.second);
+                    return Math.max(0, train.parting - moment.second);
                 case RIGHT:
                     return isRight(rider, coach) ? 1 : 0;
                 case NEAR:
                     return nearestRight(rider);
                 case HALT:
-                    return haltLeft();
+                    int stop = haltingStop();
+                    return stop == NONE ? 0 : train.haltEnd[stop] - moment.second;
                 case LOADS:
                     return train.loads[rider];
                 case PACE:
@@ -1498,17 +1496,12 @@ public final class FrontFour {
             int least = NEVER;
             for (int c = 0; c < train.coaches; c++) {
                 int distance = Math.abs(c - moment.coach[rider]);
-                if (isRight(rider, c) && distance < least) {
+                if (train.goesTo[c] == train.dest[rider] && distance < least) {
                     nearest = c;
                     least = distance;
                 }
             }
             return nearest;
-        }
-
-        private int haltLeft() {
-            int stop = haltingStop();
-            return stop == NONE ? 0 : train.haltEnd[stop] - moment.second;
         }
     }
 
@@ -1601,7 +1594,7 @@ public final class FrontFour {
 
         private int firstEnd(int rider, int from, int to, int at) {
             int seconds = world.outsideSeconds(rider, from, to);
-            int end = world.outsideBegin(rider, from, to, at) + seconds;
+            int end = world.outsideBegin(seconds, at) + seconds;
             if (Math.abs(from - to) == 1) {
                 int begin = world.insideBegin(rider, from, to, at);
                 end = Math.min(end, begin + world.train.insideSeconds[rider]);
@@ -1639,7 +1632,7 @@ public final class FrontFour {
         }
 
         private int lastBegin(int rider, int from, int to, int by) {
-            int begin = world.outsideLatest(rider, from, to, by);
+            int begin = world.outsideLatest(world.outsideSeconds(rider, from, to), by);
             if (Math.abs(from - to) == 1) {
                 begin = Math.max(begin, world.insideLatest(rider, from, to, by));
             }
@@ -1658,12 +1651,12 @@ public final class FrontFour {
         }
 
         int latestOf(int rider) {
-            spreadBack(rider, world.partingSecond());
+            spreadBack(rider, world.train.parting);
             return until[world.placeOf(rider)];
         }
 
         boolean isLost(int rider, int soonest) {
-            return !world.isRight(rider, world.placeOf(rider)) && soonest > world.partingSecond();
+            return !world.isRight(rider, world.placeOf(rider)) && soonest > world.train.parting;
         }
 
         /** Walks along the ROW of a rider to its k-th GOING, which is then the one found. */
@@ -1694,8 +1687,9 @@ public final class FrontFour {
             }
             for (int to = 0; to < world.train.coaches; to++) {
                 if (to != from) {
-                    int begin = world.outsideBegin(rider, from, to, at);
-                    int end = begin + world.outsideSeconds(rider, from, to);
+                    int seconds = world.outsideSeconds(rider, from, to);
+                    int begin = world.outsideBegin(seconds, at);
+                    int end = begin + seconds;
                     if (end <= until[to]) {
                         takeAsFound(true, to, begin, end);
                         return true;
@@ -1803,7 +1797,7 @@ public final class FrontFour {
 
         private int bestFor(int rider) {
             int best = NONE;
-            int soonest = world.partingSecond() + 1;
+            int soonest = world.train.parting + 1;
             for (int c = 0; c < world.train.coaches; c++) {
                 if (world.isRight(rider, c) && worst[c] < soonest) {
                     best = c;
@@ -1870,7 +1864,7 @@ public final class FrontFour {
         void travel(int journeys) {
             journeysLost = 0;
             journeysAhead = 0;
-            int parting = world.partingSecond();
+            int parting = world.train.parting;
             int x = world.seed;
             for (int i = 0; i < journeys; i++) {
                 for (int r = 0; r < world.train.riders; r++) {

@@ -137,6 +137,11 @@ public final class SearchTest {
         FrontFour y = Due.train("train 2;dest 0 1;stop 30 10;platform 20;trolley 0 39;rider 0 1 1 0;rider 0 1 2 0");
         due.is("trolley till 39", y.latest(0), 39);
         due.is("not with PACE 2", y.latest(1), -2);
+        FrontFour w = Due.train("train 2;dest 0 1;stop 1 1;platform 20;rider 0 1 2 0;rider 0 1 3 0");
+        due.is("at second 0", w.latest(0), 0);
+        due.is("ahead of second 0 is none", w.latest(1), -2);
+        due.is("voice at second 0", w.voice(0), 0);
+        due.is("and in the COACHES", w.voices(), 1);
         FrontFour z = Due.train("train 3;dest 0 0 1;stop 30 10;rider 0 1 4 0;told 0 999");
         due.is("KNOWING or not", z.latest(0), 32);
         z.inside(0, 1);
@@ -194,5 +199,26 @@ public final class SearchTest {
         due.is("what ends behind 999 is not", y.soonest(0), -2);
         due.is("nor is its ROW", y.row(0, 0, 0), -2);
         due.is("but it goes to a right one", y.lost(), 2);
+        y = Due.train("train 2;stop 9 9;rider 0 0 20 3;rider 0 0 9 0;rider 1 0 10 0");
+        for (int i = 0; i < 10; i++) {
+            y.pass(99);
+        }
+        y.inside(1, 1);
+        due.is("what ends at 999 is", y.soonest(1), 999);
+        y.pass(9);
+        due.is("now is 999", y.soonest(0), 999);
+        FrontFour z = Due.train("train 2;stop 9 9;rider 0 0 9 0;rider 1 0 10 0");
+        for (int i = 0; i < 10; i++) {
+            z.pass(99);
+        }
+        due.is("one who would end at 1000 is not met", z.meet(0, 1, 0), -2);
+        z = Due.train("train 2;stop 9 9;rider 0 0 9 0;rider 1 0 9 0");
+        for (int i = 0; i < 10; i++) {
+            z.pass(99);
+        }
+        due.is("who would end at 999 is", z.meet(0, 1, 1), 990);
+        z.shut(0, true);
+        z.seen(0, 0, 999);
+        due.is("SEEN at 999", z.gotIn(0), 3);
     }
 }

@@ -6,6 +6,7 @@ public final class TapeTest {
         feeding(due);
         cutting(due);
         bytesInOrder(due);
+        fullTape(due);
         due.close();
     }
 
@@ -91,5 +92,22 @@ public final class TapeTest {
         x.feed(0x74726169, 0x6e2032a0, 0x3b73746f, 0x70203120, 0x31000000);
         x.end(17);
         due.is("line with byte 160", x.line(), Due.fault(7, 0));
+    }
+
+    private static void fullTape(Due due) {
+        FrontFour x = new FrontFour();
+        due.is("400 signs are no LINE", Due.line(x, ";".repeat(400)), Due.fault(0, 0));
+        due.is("nor a RULE", Due.rule(x, "stay" + ";".repeat(396)), Due.fault(5, 0));
+        due.is("400 blanks", Due.line(x, " ".repeat(400)), Due.fault(400, 0));
+        due.is("a sign as the last byte", Due.rule(x, "stay if 1" + " ".repeat(390) + "<"), Due.fault(400, 0));
+        due.is("a digit as the last byte", Due.rule(x, "stay if 1<" + " ".repeat(389) + "1"), 0);
+        due.is("a letter as the last byte", Due.rule(x, " ".repeat(396) + "stay"), 1);
+        due.is("a LINE of 400 bytes", Due.line(x, "train 2" + " ".repeat(384) + ";stop 1 1"), 0);
+        // each byte after the first CLAUSE a token of its own: 60 VALUES and FACTS, 10 deep
+        StringBuilder text = new StringBuilder("stay if ");
+        for (int n = 0; n < 20; n++) {
+            text.append(n == 0 ? "" : "or").append("[[[[1=1]]]]");
+        }
+        due.is("many tokens", Due.rule(x, text.toString()), 2);
     }
 }
