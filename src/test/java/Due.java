@@ -59,6 +59,32 @@ final class Due {
         return x;
     }
 
+    /** Lets seconds go by till one is come. */
+    static FrontFour passTo(FrontFour x, int second) {
+        while (x.count(4) < second) {
+            if (x.pass(Math.min(99, second - x.count(4))) < 0) {
+                throw new IllegalStateException("second " + second + " does not come");
+            }
+        }
+        return x;
+    }
+
+    /** All that can be looked at but the TAPE and what can be UNDONE, as a text. */
+    static String state(FrontFour x) {
+        StringBuilder text = new StringBuilder();
+        for (int what = 0; what < 12; what++) {
+            text.append(what == 10 ? 0 : x.count(what)).append(' ');
+        }
+        for (int i = 0; i < 8; i++) {
+            for (int what = 0; what < 9; what++) {
+                text.append(x.coach(i, what)).append(' ').append(x.way(i, what)).append(' ');
+                text.append(x.stop(i, what)).append(' ').append(x.rider(i, what)).append(' ');
+            }
+            text.append(x.gotIn(i)).append(' ').append(x.soonest(i)).append(' ').append(x.latest(i)).append(' ');
+        }
+        return text.toString();
+    }
+
     static int fault(int place, int kind) {
         return -2 - (1 + 8 * place + kind);
     }
