@@ -53,6 +53,13 @@ final class EdgesOfImages {
         doMore(x);
         x.back(2);
         s.is("gone back to twice", Due.state(x).equals(states[2]), true);
+        // of SEEN not only how many
+        x.seen(-1, 0, 0);
+        for (int n = 0; n < 12; n++) {
+            x.seen(1, 3, 0);
+        }
+        x.back(2);
+        s.is("SEEN as they were", Due.state(x).equals(states[2]), true);
         // another LINE goes and comes with its IMAGE
         Due.line(x, "train 2;stop 1 1;rider 0 0 1 0");
         String other = Due.state(x);

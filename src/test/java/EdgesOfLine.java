@@ -349,6 +349,11 @@ final class EdgesOfLine {
         s.is("x", x.count(11), 2147483647);
         s.is("RULES", x.count(3), 1);
         s.is("platform 4 again", Due.passTo(x, 7).outside(0, 1), 11);
+        s.is("another LINE, of the least", Due.line(x, "train 3;stop 7 7"), 0);
+        y = Due.train("train 3;stop 7 7");
+        Due.rule(y, "stay");
+        y.seed(2147483647);
+        s.is("as if it were the first", Due.state(x).equals(Due.state(y)), true);
         s.says("how many RIDERS;");
         s.is("none", line("train 2;stop 1 1"), 0);
         s.is("one", line("train 2;stop 1 1;rider 0 0 1 0"), 1);

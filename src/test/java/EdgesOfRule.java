@@ -120,6 +120,21 @@ final class EdgesOfRule {
         s.is("14", rule(eleven + ";stay;stay;stay"), Due.fault(60, 4));
         s.is("none", rule(""), Due.fault(0, 0));
         s.is("400 bytes", rule("stay" + " ".repeat(391) + ";stay"), 0);
+        s.is("400 signs", rule("+".repeat(400)), Due.fault(0, 0));
+        s.is("400 signs of a LINE", line(";".repeat(400)), Due.fault(0, 0));
+        // a RULE has nothing of the one told ahead of it
+        x = Due.train("train 7;stop 9 9;rider 3 0 1 0");
+        s.is("12 CLAUSES", Due.rule(x, eleven + ";stay"), 0);
+        s.is("12 again", Due.rule(x, eleven + ";stay"), 1);
+        s.is("a FAULT in the twelfth", Due.rule(x, eleven + ";stay 1"), Due.fault(60, 0));
+        s.is("60 VALUES", Due.rule(x, "inside 6" + "*1".repeat(59)), 2);
+        s.is("60 VALUES again", Due.rule(x, "inside 0" + "*1".repeat(59)), 3);
+        s.is("and again", Due.rule(x, "inside 6" + "*1".repeat(59)), 4);
+        s.is("and again", Due.rule(x, "inside 0" + "*1".repeat(59)), 5);
+        for (int n = 2; n < 6; n++) {
+            x.run(n, 1);
+            s.is("RULE " + n + " goes its own way", x.rider(0, 0), n % 2 == 0 ? 4 : 3);
+        }
     }
 
     private static void clauses() {
@@ -173,6 +188,8 @@ final class EdgesOfRule {
         s.is("no SUM behind", rule("stay if 1="), Due.fault(10, 0));
         s.is("no SUM ahead", rule("stay if =1"), Due.fault(8, 0));
         s.is("two SIGNS", rule("stay if 1=1=1"), Due.fault(11, 0));
+        s.is("no SIGN between NUMBERS", rule("stay if 1 1"), Due.fault(10, 0));
+        s.is("no SIGN between WORDS", rule("stay if rider coach"), Due.fault(14, 0));
         s.is("not of a SUM", rule("stay if 1=not 1"), Due.fault(10, 0));
     }
 
@@ -188,6 +205,17 @@ final class EdgesOfRule {
         }
         String[] wrong = {"==", "=<", "=>", "<>", "!=", "< =", "<<"};
         int[] places = {10, 10, 10, 10, 9, 11, 10};
+        s.is("< at the end", rule("stay if 1<"), Due.fault(10, 0));
+        s.is("<= at the end", rule("stay if 1<="), Due.fault(11, 0));
+        s.is("< as the last of 400 bytes", rule("stay if 1" + " ".repeat(390) + "<"), Due.fault(400, 0));
+        s.is("<= as the last of 400 bytes", rule("stay if 1" + " ".repeat(389) + "<="), Due.fault(400, 0));
+        // what was cut off the TAPE is no part of a SIGN
+        FrontFour x = new FrontFour();
+        Due.tell(x, "stay if 1<=1");
+        x.end(10);
+        x.feed(0x31202020, 0, 0, 0, 0);
+        x.end(11);
+        s.is("1<1 and not 1<=1", x.rule(), 0);
         for (int i = 0; i < wrong.length; i++) {
             s.is("1" + wrong[i] + "1", rule("stay if 1" + wrong[i] + "1"), Due.fault(places[i], 0));
         }
@@ -244,9 +272,28 @@ final class EdgesOfRule {
         s.is("the byte ahead of a", rule("inside rider`"), Due.fault(12, 0));
         s.is("the byte behind z", rule("inside rider{"), Due.fault(12, 0));
         s.is("digits right behind letters", rule("inside2"), 0);
-        s.is("a WORD of the LINE alone", rule("inside stop"), Due.fault(7, 0));
-        s.is("a WORD of CLAUSES alone", rule("inside stay"), Due.fault(7, 0));
-        s.is("a WORD of RULES in a LINE", line("train 2;stop 1 1;coach 0"), Due.fault(17, 0));
+        s.is("another first letter", rule("inside xider"), Due.fault(7, 0));
+        s.is("another last letter", rule("inside ridex"), Due.fault(7, 0));
+        s.is("a goes on", rule("inside ridera"), Due.fault(7, 0));
+        s.is("z goes on", rule("inside riderz"), Due.fault(7, 0));
+        eachWordInItsPlace();
+    }
+
+    private static void eachWordInItsPlace() {
+        String ofLine = " train dest stop parting shut trolley seats rider told platform ";
+        String ofRule = " inside outside stay ";
+        String ofSum = " rider dest coach second left right near halt loads pace full seats moved ";
+        String all = ofLine + ofRule + ofSum + "if and or not";
+        for (String word : all.trim().split(" +")) {
+            String spaced = " " + word + " ";
+            // what stands there has its FAULT, if any, behind the WORD or is one of kind 4
+            int inLine = line("train 2;stop 1 1;" + word);
+            s.is(word + " in a LINE", inLine == Due.fault(17, 0), !ofLine.contains(spaced));
+            int inRule = rule(word);
+            s.is(word + " in a RULE", inRule == Due.fault(0, 0), !ofRule.contains(spaced));
+            int inSum = rule("inside " + word);
+            s.is(word + " in a SUM", inSum, ofSum.contains(spaced) ? 0 : Due.fault(7, 0));
+        }
     }
 
     private static void left() {

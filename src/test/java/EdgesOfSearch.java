@@ -241,6 +241,22 @@ final class EdgesOfSearch {
         row(Due.train("train 3;dest 0 0 1;stop 60 5;platform 20;trolley 1 8;rider 1 1 4 0"), 0,
                 inside(0, 0), inside(1, 4), inside(2, 8));
         row(Due.train("train 3;dest 0 0 1;stop 60 5;platform 20;trolley 1 7;rider 1 1 4 0"), 0, inside(2, 7));
+        // a long ROW: to and fro, a second each, till the HALT at 99; and later till the trolley is gone at 952
+        FrontFour x = Due.train("train 3;dest 0 0 1" + ";stop 99 60".repeat(6) + ";platform 20;trolley 1 952;rider 1 1 1 0");
+        s.is("by the first HALT", x.soonest(0), 119);
+        for (int k = 0; k < 98; k++) {
+            s.is("to and fro, k " + k, x.row(0, k, 1), k % 2);
+        }
+        s.is("k 98, OUTSIDE", x.row(0, 98, 0), 1);
+        s.is("to COACH 2", x.row(0, 98, 1), 2);
+        s.is("begun at 99", x.row(0, 98, 2), 99);
+        s.is("k 99", x.row(0, 99, 0), -2);
+        Due.passTo(x, 936);
+        s.is("the last HALT is too short by now", x.soonest(0), 953);
+        s.is("k 15", x.row(0, 15, 2), 951);
+        s.is("k 16, INSIDE to the right COACH", x.row(0, 16, 1), 2);
+        s.is("begun at 952", x.row(0, 16, 2), 952);
+        s.is("k 17", x.row(0, 17, 0), -2);
     }
 
     private static void latest() {

@@ -98,7 +98,11 @@ final class EdgesOfTogether {
         s.is("RIDER 0 alone", Due.train(line).family(1, 0), 1);
         s.is("at once", Due.train(line).family(1, 1), 0);
         s.is("RIDER 1 alone", Due.train(line).family(2, 0), 3);
-        FrontFour x = Due.train(line + ";told 1 7");
+        FrontFour x = Due.train(line);
+        s.is("asked of both", x.family(3, 1), 3);
+        s.is("and then of one", x.family(1, 1), 0);
+        s.is("and of the other", x.family(2, 1), 0);
+        x = Due.train(line + ";told 1 7");
         s.is("the latest KNOWS from 7: where they are", x.family(3, 0), 3);
         s.is("when", x.family(3, 1), 7);
         s.is("from 5 on the other from 7: between them", Due.passTo(x, 5).family(3, 0), 2);
@@ -252,6 +256,21 @@ final class EdgesOfTogether {
         x.seen(0, 1, 5);
         x.seen(0, 0, 0);
         s.is("told in any order", x.gotIn(0), 1);
+        // of two RIDERS, each told ahead of what was told before: neither is SEEN for the other
+        x.seen(-1, 0, 0);
+        for (int second = 40; second >= 0; second -= 20) {
+            x.seen(0, second / 20, second);
+            x.seen(1, 3 - second / 20, second + 10);
+        }
+        s.is("RIDER 0 from 0 to 1 to 2", x.gotIn(0), 1);
+        s.is("RIDER 1 from 3 to 2 to 1, from anywhere by 10", x.gotIn(1), 14);
+        x.seen(0, 3, 41);
+        s.is("RIDER 0 can't be in 3 at 41", x.gotIn(0), 0);
+        s.is("RIDER 1 can", x.gotIn(1), 14);
+        x.seen(-1, 0, 0);
+        x.seen(0, 3, 15);
+        x.seen(0, 1, 5);
+        x.seen(0, 0, 0);
         x.seen(0, 1, 0);
         s.is("in two at one second", x.gotIn(0), 0);
         x.seen(-1, 0, 0);
@@ -271,6 +290,12 @@ final class EdgesOfTogether {
             x.seen(0, 1, 999);
             s.is("SEEN in 0 at " + second + ", 4 seconds till PARTING at 10", x.gotIn(0),
                     second <= 6 ? 1 : 0);
+        }
+        // what ends at 999 at the latest is looked at
+        for (int till = 989; till <= 991; till++) {
+            x = Due.train("train 2;stop 5 5;platform 20;rider 0 0 9 0;trolley 0 " + till);
+            x.seen(0, 1, 999);
+            s.is("a trolley till " + till, x.gotIn(0), till <= 990 ? 3 : 2);
         }
         x = Due.train("train 2;dest 0 1;stop 5 5;platform 20;rider 0 0 4 0");
         x.seen(0, 0, 6);
