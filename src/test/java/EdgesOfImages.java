@@ -60,6 +60,19 @@ final class EdgesOfImages {
         }
         x.back(2);
         s.is("SEEN as they were", Due.state(x).equals(states[2]), true);
+        FrontFour z = Due.train("train 4;stop 60 9;rider 0 0 5 0;rider 0 0 5 0");
+        z.seen(0, 0, 5);
+        z.image(0);
+        z.seen(-1, 0, 0);
+        z.seen(1, 3, 0);
+        s.is("SEEN are others", z.gotIn(0), 15);
+        z.back(0);
+        s.is("who was SEEN, where and when", z.gotIn(0), 3);
+        s.is("and nobody else", z.gotIn(1), 15);
+        z.seen(-1, 0, 0);
+        z.seen(0, 0, 0);
+        z.back(0);
+        s.is("when", z.gotIn(0), 3);
         // another LINE goes and comes with its IMAGE
         Due.line(x, "train 2;stop 1 1;rider 0 0 1 0");
         String other = Due.state(x);

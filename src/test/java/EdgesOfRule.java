@@ -127,10 +127,10 @@ final class EdgesOfRule {
         s.is("12 CLAUSES", Due.rule(x, eleven + ";stay"), 0);
         s.is("12 again", Due.rule(x, eleven + ";stay"), 1);
         s.is("a FAULT in the twelfth", Due.rule(x, eleven + ";stay 1"), Due.fault(60, 0));
-        s.is("60 VALUES", Due.rule(x, "inside 6" + "*1".repeat(59)), 2);
-        s.is("60 VALUES again", Due.rule(x, "inside 0" + "*1".repeat(59)), 3);
-        s.is("and again", Due.rule(x, "inside 6" + "*1".repeat(59)), 4);
-        s.is("and again", Due.rule(x, "inside 0" + "*1".repeat(59)), 5);
+        for (int n = 2; n < 6; n++) {
+            String sum = n % 2 == 0 ? "inside 0" + "+0".repeat(58) + "+6" : "inside 6" + "-0".repeat(58) + "-6";
+            s.is("60 VALUES", Due.rule(x, sum), n);
+        }
         for (int n = 2; n < 6; n++) {
             x.run(n, 1);
             s.is("RULE " + n + " goes its own way", x.rider(0, 0), n % 2 == 0 ? 4 : 3);

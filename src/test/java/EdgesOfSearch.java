@@ -158,6 +158,14 @@ final class EdgesOfSearch {
         s.is("behind", Due.train(line).soonest(1), 6);
         s.is("here", Due.train(line).soonest(2), 0);
         s.is("nowhere", Due.train(line).soonest(3), -2);
+        String eight = "train 8;dest 1 0 0 0 0 0 0 2;stop 60 5;platform 20;rider 7 1 2 0;rider 0 2 2 0;rider 7 2 2 0";
+        s.is("the front from the last of eight", Due.train(eight).soonest(0), 14);
+        row(Due.train(eight), 0, inside(6, 0), inside(5, 2), inside(4, 4), inside(3, 6), inside(2, 8), inside(1, 10),
+                inside(0, 12));
+        s.is("the last of eight from the front", Due.train(eight).soonest(1), 14);
+        row(Due.train(eight), 1, inside(1, 0), inside(2, 2), inside(3, 4), inside(4, 6), inside(5, 8), inside(6, 10),
+                inside(7, 12));
+        s.is("the last of eight", Due.train(eight).soonest(2), 0);
         String two = "train 5;dest 1 0 0 1 1;stop 60 5;platform 20;rider 2 1 3 0;rider 1 1 3 0";
         s.is("the nearer one behind", Due.train(two).soonest(0), 3);
         s.is("the nearer one ahead", Due.train(two).soonest(1), 3);
@@ -301,6 +309,10 @@ final class EdgesOfSearch {
         x.inside(0, -1);
         s.is("away from it", x.latest(0), 26);
         s.is("no COACH goes there", Due.train("train 2;stop 5 5;rider 0 1 1 0").latest(0), -2);
+        String eight = "train 8;dest 1 0 0 0 0 0 0 2;stop 60 5;platform 20;rider 7 1 2 0;rider 0 2 2 0;rider 7 2 2 0";
+        s.is("to the front from the last of eight", Due.train(eight).latest(0), 51);
+        s.is("to the last of eight from the front", Due.train(eight).latest(1), 51);
+        s.is("in the last of eight", Due.train(eight).latest(2), 65);
     }
 
     private static void lost() {

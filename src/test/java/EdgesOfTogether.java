@@ -119,6 +119,9 @@ final class EdgesOfTogether {
         s.is("when", Due.train(line).family(6, 1), 4);
         s.is("the DEST of 2, which is none", Due.train(line).family(4, 0), -2);
         s.is("all three", Due.train(line).family(7, 0), 2);
+        String eight = "train 8;dest 1 0 0 0 0 0 0 1;stop 60 9;platform 20;rider 7 1 2 0;rider 0 1 1 0";
+        s.is("in the last of eight", Due.train(eight).family(3, 0), 7);
+        s.is("when", Due.train(eight).family(3, 1), 7);
     }
 
     private static void familyByParting() {
@@ -151,6 +154,8 @@ final class EdgesOfTogether {
         s.is("one KNOWS from 6", Due.train(line + ";told 0 6").meet(0, 1, 0), 0);
         s.is("when", Due.train(line + ";told 0 6").meet(0, 1, 1), 10);
         s.is("in one COACH", Due.train("train 2;stop 60 9;rider 1 0 5 0;rider 1 0 5 0").meet(0, 1, 0), -2);
+        s.is("at both ends of eight", Due.train("train 8;stop 60 9;rider 0 0 1 0;rider 7 0 9 0").meet(0, 1, 0), 6);
+        s.is("when", Due.train("train 8;stop 60 9;rider 0 0 1 0;rider 7 0 9 0").meet(0, 1, 1), 6);
         s.is("in COACHES beside", Due.train("train 2;stop 60 9;rider 1 0 5 0;rider 0 0 5 0").meet(0, 1, 0), 0);
         FrontFour x = Due.train("train 4;stop 60 9;rider 0 0 5 0;rider 2 0 5 0");
         x.inside(1, 1);
@@ -257,6 +262,11 @@ final class EdgesOfTogether {
         x.seen(0, 0, 0);
         s.is("told in any order", x.gotIn(0), 1);
         // of two RIDERS, each told ahead of what was told before: neither is SEEN for the other
+        FrontFour two = Due.train("train 4;stop 60 9;platform 20;rider 3 0 5 0;rider 3 0 5 0");
+        two.seen(1, 3, 5);
+        two.seen(0, 0, 0);
+        s.is("RIDER 0 at 0", two.gotIn(0), 1);
+        s.is("RIDER 1 at 5", two.gotIn(1), 12);
         x.seen(-1, 0, 0);
         for (int second = 40; second >= 0; second -= 20) {
             x.seen(0, second / 20, second);
